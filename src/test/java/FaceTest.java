@@ -7,22 +7,46 @@ import java.util.Arrays;
 import java.util.Set;
 import java.util.TreeSet;
 
-/** The public face: the document's members, and no other one that isn't private. */
+/** The public face: the document's members, word for word, and no other one that isn't private. */
 public final class FaceTest {
     private static final Set<String> FACE = new TreeSet<>(Arrays.asList(
-            "int BAD_NODE", "int BAD_NUMBER", "new(0)",
-            "int link(3)", "int toSource(3)", "int toSink(3)", "void flip(0)",
-            "int cost(2)", "int least(1)", "int always(1)", "int ever(1)", "int ties(1)",
-            "int stages(0)", "int worst(0)", "int spare(3)", "boolean separates(3)"));
+            "public static final int BAD_NODE",
+            "public static final int BAD_NUMBER",
+            "public ParametricCut()",
+            "public int link(int, int, int)",
+            "public int toSource(int, int, int)",
+            "public int toSink(int, int, int)",
+            "public void flip()",
+            "public int cost(int, int)",
+            "public int least(int)",
+            "public int always(int)",
+            "public int ever(int)",
+            "public int ties(int)",
+            "public int stages()",
+            "public int worst()",
+            "public int spare(int, int, int)",
+            "public boolean separates(int, int, int)"));
 
     public static void main(String[] args) {
+        Check.sentence("The public face: the class");
+        Class<?> face = ParametricCut.class;
+        Check.due("it is public and final, no more", face.getModifiers(), Modifier.PUBLIC | Modifier.FINAL);
+        Check.due("it has no package", face.getPackageName().isEmpty(), true);
+        Check.due("it inherits from nothing", face.getSuperclass() == Object.class, true);
+        Check.due("interfaces", face.getInterfaces().length, 0);
+        Check.due("type parameters", face.getTypeParameters().length, 0);
+        Check.due("nested classes", face.getDeclaredClasses().length, 0);
+        Check.sentence("The public face: the constants");
         Check.due("BAD_NODE", ParametricCut.BAD_NODE, -1);
         Check.due("BAD_NUMBER", ParametricCut.BAD_NUMBER, -2);
-        Check.due("the class is public and final",
-                ParametricCut.class.getModifiers(), Modifier.PUBLIC | Modifier.FINAL);
+        Check.sentence("The public face: its members and no others");
         Set<String> seen = visibleMembers();
-        Check.due("members " + seen + " are the face's", seen.equals(FACE), true);
-        Check.due("nested classes", ParametricCut.class.getDeclaredClasses().length, 0);
+        for (String member : FACE) {
+            Check.due("there is " + member, seen.contains(member), true);
+        }
+        for (String member : seen) {
+            Check.due("the document has " + member, FACE.contains(member), true);
+        }
         Check.end();
     }
 
@@ -32,25 +56,27 @@ public final class FaceTest {
             add(seen, field, field.getType() + " " + field.getName());
         }
         for (Method method : ParametricCut.class.getDeclaredMethods()) {
-            allInts(method.getName(), method.getParameterTypes());
-            add(seen, method, method.getReturnType() + " " + method.getName() + "(" + method.getParameterCount() + ")");
+            String head = method.getReturnType() + " " + method.getName();
+            add(seen, method, head + types(method.getParameterTypes()) + thrown(method.getExceptionTypes()));
         }
         for (Constructor<?> made : ParametricCut.class.getDeclaredConstructors()) {
-            add(seen, made, "new(" + made.getParameterCount() + ")");
+            add(seen, made, made.getName() + types(made.getParameterTypes()) + thrown(made.getExceptionTypes()));
         }
         return seen;
     }
 
     private static void add(Set<String> seen, Member member, String text) {
         if (!Modifier.isPrivate(member.getModifiers())) {
-            Check.due(text + " is public", Modifier.isPublic(member.getModifiers()), true);
-            seen.add(text);
+            seen.add((Modifier.toString(member.getModifiers()) + " " + text).trim());
         }
     }
 
-    private static void allInts(String name, Class<?>[] types) {
-        for (Class<?> type : types) {
-            Check.due(name + " takes ints", type == int.class, true);
-        }
+    private static String types(Class<?>[] types) {
+        String list = Arrays.toString(types);
+        return "(" + list.substring(1, list.length() - 1) + ")";
+    }
+
+    private static String thrown(Class<?>[] types) {
+        return types.length == 0 ? "" : " throws " + types(types);
     }
 }

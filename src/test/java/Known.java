@@ -1,3 +1,5 @@
+import java.util.function.IntUnaryOperator;
+
 /**
  * An object beside what it must hold. At first all its links differ from each other, and so do the pulls
  * to each end, so that a change of any one shows.
@@ -7,9 +9,7 @@ final class Known {
     private static final int[] UNTOUCHED = answers(new Known().cut);
 
     final ParametricCut cut = new ParametricCut();
-    private final int[][] links = new int[7][7];
-    private int[][] source = new int[7][2];
-    private int[][] sink = new int[7][2];
+    final Model due = new Model();
 
     Known() {
         int pair = 0;
@@ -25,57 +25,24 @@ final class Known {
         }
     }
 
-    int capacity(int u, int v) {
-        return links[u][v];
-    }
-
     int link(int u, int v, int capacity) {
-        links[u][v] = capacity;
-        links[v][u] = capacity;
+        due.link(u, v, capacity);
         return cut.link(u, v, capacity);
     }
 
     int toSource(int v, int a, int b) {
-        source[v] = new int[] {a, b};
+        due.toSource(v, a, b);
         return cut.toSource(v, a, b);
     }
 
     int toSink(int v, int c, int d) {
-        sink[v] = new int[] {c, d};
+        due.toSink(v, c, d);
         return cut.toSink(v, c, d);
     }
 
     void flip() {
-        int[][] kept = source;
-        source = sink;
-        sink = kept;
+        due.flip();
         cut.flip();
-    }
-
-    /** The cost, added up in the order of the document's words. */
-    int costDue(int side, int x) {
-        int sum = 0;
-        for (int v = 0; v < 7; v++) {
-            boolean on = (side & 1 << v) != 0;
-            sum += on ? 0 : pull(source[v], x);
-            sum += on ? pull(sink[v], x) : 0;
-            for (int u = 0; u < v; u++) {
-                sum += on == ((side & 1 << u) != 0) ? 0 : links[u][v];
-            }
-        }
-        return sum;
-    }
-
-    int leastDue(int x) {
-        int least = costDue(0, x);
-        for (int side = 1; side < 128; side++) {
-            least = Math.min(least, costDue(side, x));
-        }
-        return least;
-    }
-
-    static int pull(int[] line, int x) {
-        return Math.max(0, line[0] + line[1] * x);
     }
 
     /** For an object that nothing was set in since it was made; takes it apart, as holds does. */
@@ -91,16 +58,23 @@ final class Known {
     void holds(String when) {
         for (int u = 0; u < 7; u++) {
             for (int v = u + 1; v < 7; v++) {
-                Check.due(when + "link " + u + " " + v, cut.link(u, v, 0), links[u][v]);
+                Check.due(when + "link " + u + " " + v, cut.link(u, v, 0), due.capacity(u, v));
             }
         }
         for (int v = 0; v < 7; v++) {
+            int node = v;
             int[] before = costs(0);
             cut.toSource(v, 0, 0);
-            lost(when + "pull to the source of " + v, before, costs(0), source[v]);
+            lost(when + "pull to the source of " + v, before, costs(0), x -> due.sourcePull(node, x));
             before = costs(127);
             cut.toSink(v, 0, 0);
-            lost(when + "pull to the sink of " + v, before, costs(127), sink[v]);
+            lost(when + "pull to the sink of " + v, before, costs(127), x -> due.sinkPull(node, x));
+        }
+    }
+
+    private static void lost(String name, int[] before, int[] after, IntUnaryOperator pull) {
+        for (int k = 0; k < XS.length; k++) {
+            Check.due(name + " at " + XS[k], before[k] - after[k], pull.applyAsInt(XS[k]));
         }
     }
 
@@ -110,12 +84,6 @@ final class Known {
             costs[k] = cut.cost(side, XS[k]);
         }
         return costs;
-    }
-
-    private static void lost(String name, int[] before, int[] after, int[] line) {
-        for (int k = 0; k < XS.length; k++) {
-            Check.due(name + " at " + XS[k], before[k] - after[k], pull(line, XS[k]));
-        }
     }
 
     private static int[] answers(ParametricCut cut) {

@@ -61,7 +61,7 @@ public final class QuestionEdgeTest {
         Check.sentence("Promise 6: side & 127 counts");
         for (int side = 0; side < 128; side++) {
             Known known = new Known();
-            int due = known.costDue(side, 50);
+            int due = known.due.cost(side, 50);
             Check.due("cost(" + side + ", 50)", known.cut.cost(side, 50), due);
             for (int bit = 7; bit < 32; bit++) {
                 int more = side | 1 << bit;
@@ -70,19 +70,19 @@ public final class QuestionEdgeTest {
             Check.due("cost(" + (side - 128) + ", 50)", known.cut.cost(side - 128, 50), due);
         }
         Known known = new Known();
-        Check.due("cost(MIN_VALUE, 0)", known.cut.cost(Integer.MIN_VALUE, 0), known.costDue(0, 0));
-        Check.due("cost(MAX_VALUE, 0)", known.cut.cost(Integer.MAX_VALUE, 0), known.costDue(127, 0));
-        Check.due("cost(-1, 0)", known.cut.cost(-1, 0), known.costDue(127, 0));
-        Check.due("cost(-128, 0)", known.cut.cost(-128, 0), known.costDue(0, 0));
-        Check.due("cost(-129, 0)", known.cut.cost(-129, 0), known.costDue(127, 0));
-        Check.due("cost(128, 0)", known.cut.cost(128, 0), known.costDue(0, 0));
+        Check.due("cost(MIN_VALUE, 0)", known.cut.cost(Integer.MIN_VALUE, 0), known.due.cost(0, 0));
+        Check.due("cost(MAX_VALUE, 0)", known.cut.cost(Integer.MAX_VALUE, 0), known.due.cost(127, 0));
+        Check.due("cost(-1, 0)", known.cut.cost(-1, 0), known.due.cost(127, 0));
+        Check.due("cost(-128, 0)", known.cut.cost(-128, 0), known.due.cost(0, 0));
+        Check.due("cost(-129, 0)", known.cut.cost(-129, 0), known.due.cost(127, 0));
+        Check.due("cost(128, 0)", known.cut.cost(128, 0), known.due.cost(0, 0));
     }
 
     private static void leastOfAnyCut() {
         Check.sentence("Promise 7: the least cost of any cut at x");
         Known known = new Known();
         for (int x = 0; x <= 50; x++) {
-            Check.due("least(" + x + ")", known.cut.least(x), known.leastDue(x));
+            Check.due("least(" + x + ")", known.cut.least(x), known.due.least(x));
         }
         for (int side = 0; side < 128; side++) {
             ParametricCut cut = new ParametricCut();
@@ -313,15 +313,15 @@ public final class QuestionEdgeTest {
     private static void greatestLoss(int u, int v, int x) {
         Known known = new Known();
         String name = "spare(" + u + ", " + v + ", " + x + ")";
-        int capacity = known.capacity(u, v);
-        int least = known.leastDue(x);
+        int capacity = known.due.capacity(u, v);
+        int least = known.due.least(x);
         int spare = known.cut.spare(u, v, x);
         Check.due(name + " is in 0 to the capacity", spare >= 0 && spare <= capacity, true);
         known.link(u, v, Math.max(0, capacity - spare));
-        Check.due(name + " lost: least(" + x + ")", known.leastDue(x), least);
+        Check.due(name + " lost: least(" + x + ")", known.due.least(x), least);
         if (spare < capacity) {
             known.link(u, v, capacity - spare - 1);
-            Check.due(name + " and one more lost: least is less", known.leastDue(x) < least, true);
+            Check.due(name + " and one more lost: least is less", known.due.least(x) < least, true);
         }
     }
 

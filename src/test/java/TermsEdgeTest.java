@@ -72,17 +72,17 @@ public final class TermsEdgeTest {
         String name = "call " + (k + 1) + ", ";
         switch (k % 5) {
             case 0 -> {
-                int old = known.capacity(u, v);
+                int old = known.due.capacity(u, v);
                 Check.due(name + "link", known.link(u, v, k % 21), old);
             }
             case 1 -> Check.due(name + "toSource", known.toSource(v, k % 41, k % 3 - 2), 0);
             case 2 -> Check.due(name + "toSink", known.toSink(v, k % 41, 2 - k % 4), 0);
-            case 3 -> Check.due(name + "cost", known.cut.cost(k, x), known.costDue(k & 127, x));
+            case 3 -> Check.due(name + "cost", known.cut.cost(k, x), known.due.cost(k & 127, x));
             default -> {
                 if (k % 2 == 0) {
                     known.flip();
                 } else {
-                    Check.due(name + "least", known.cut.least(x), known.leastDue(x));
+                    Check.due(name + "least", known.cut.least(x), known.due.least(x));
                 }
             }
         }
@@ -249,7 +249,7 @@ public final class TermsEdgeTest {
         for (int x : new int[] {0, 1, 13, 49, 50}) {
             Known known = new Known();
             for (int side = 0; side < 128; side++) {
-                Check.due("cost(" + side + ", " + x + ")", known.cut.cost(side, x), known.costDue(side, x));
+                Check.due("cost(" + side + ", " + x + ")", known.cut.cost(side, x), known.due.cost(side, x));
             }
         }
     }
